@@ -1,0 +1,227 @@
+/** Promises 1 to 3: a new object, gate, undo. */
+public final class NetsTest {
+    private interface Function {
+        boolean of(int x);
+    }
+
+    public static void main(String[] args) {
+        newObjectHasItsNets();
+        newObjectHasAMachineAtRest();
+        gatesMakeTheirFunctions();
+        quantifiersMakeTheirFunctions();
+        putsAndSetsMakeTheirFunctions();
+        aFunctionThatIsThereIsFound();
+        unusedArgumentsAreFree();
+        wrongGatesChangeNothing();
+        aFullDeskStillFinds();
+        undoTakesNetsAway();
+        wrongUndosChangeNothing();
+        undoLeavesNextFunctions();
+        Check.end();
+    }
+
+    private static void dueFunction(String call, NetDesk x, int net, Function want) {
+        for (int at = 0; at < 128; at++) {
+            Check.due(call + " at " + at, x.holds(net, at), want.of(at));
+        }
+    }
+
+    private static boolean v(int x, int k) {
+        return Check.bit(x, k);
+    }
+
+    private static void newObjectHasItsNets() {
+        NetDesk x = new NetDesk();
+        for (int k = 0; k < 7; k++) {
+            int variable = k;
+            dueFunction("net " + k, x, k, at -> v(at, variable));
+        }
+        dueFunction("net 7", x, 7, at -> false);
+        dueFunction("net 8", x, 8, at -> true);
+        Check.due("ask of no net", x.ask(9, 0), -1);
+        Check.due("undo of no net", x.undo(9), 0);
+        Check.due("undo above", x.undo(10), -1);
+    }
+
+    private static void newObjectHasAMachineAtRest() {
+        NetDesk x = new NetDesk();
+        Check.due("witness at first", x.witness(0), -1);
+        for (int inputs = 0; inputs < 8; inputs++) {
+            Check.due("step at first", x.step(inputs), 0);
+        }
+        Check.due("RESET state at first", x.step(-1), 0);
+        Check.due("states at first", x.states(2), 1);
+    }
+
+    private static void gatesMakeTheirFunctions() {
+        NetDesk x = new NetDesk();
+        Check.due("not", x.gate(0, 2, 0, 0), 9);
+        dueFunction("not", x, 9, at -> !v(at, 2));
+        Check.due("and", x.gate(1, 1, 6, 0), 10);
+        dueFunction("and", x, 10, at -> v(at, 1) && v(at, 6));
+        Check.due("or", x.gate(2, 0, 4, 0), 11);
+        dueFunction("or", x, 11, at -> v(at, 0) || v(at, 4));
+        Check.due("just one", x.gate(3, 3, 6, 0), 12);
+        dueFunction("just one", x, 12, at -> v(at, 3) != v(at, 6));
+        Check.due("choice", x.gate(4, 5, 0, 6), 13);
+        dueFunction("choice", x, 13, at -> v(at, 5) ? v(at, 0) : v(at, 6));
+        Check.due("two of three", x.gate(5, 1, 3, 5), 14);
+        dueFunction("two of three", x, 14,
+                at -> (v(at, 1) ? 1 : 0) + (v(at, 3) ? 1 : 0) + (v(at, 5) ? 1 : 0) >= 2);
+        Check.due("gate of gates", x.gate(3, 14, 13, 0), 15);
+        dueFunction("gate of gates", x, 15, at -> x.holds(14, at) != x.holds(13, at));
+    }
+
+    /** Net 10 is true where 0 and 3 are, or 6 is. */
+    private static void quantifiersMakeTheirFunctions() {
+        NetDesk x = new NetDesk();
+        Check.due("and", x.gate(1, 0, 3, 0), 9);
+        Check.due("or", x.gate(2, 9, 6, 0), 10);
+        Check.due("some", x.gate(6, 10, 0, 0), 11);
+        dueFunction("some", x, 11, at -> v(at, 3) || v(at, 6));
+        Check.due("all", x.gate(7, 10, 0, 0), 6);
+        Check.due("all of 6", x.gate(7, 10, 6, 0), 9);
+        Check.due("some of 6", x.gate(6, 10, 6, 0), 8);
+        Check.due("all of the variable", x.gate(7, 4, 4, 0), 7);
+        Check.due("some of the variable", x.gate(6, 4, 4, 0), 8);
+        Check.due("some of one it does not depend on", x.gate(6, 10, 5, 0), 10);
+        Check.due("all of one it does not depend on", x.gate(7, 10, 5, 0), 10);
+    }
+
+    private static void putsAndSetsMakeTheirFunctions() {
+        NetDesk x = new NetDesk();
+        Check.due("just one", x.gate(3, 0, 1, 0), 9);
+        Check.due("and", x.gate(1, 9, 5, 0), 10);
+        Check.due("put", x.gate(8, 10, 1, 6), 11);
+        dueFunction("put", x, 11, at -> v(at, 0) != v(at, 6) && v(at, 5));
+        Check.due("put of a net with the variable in it", x.gate(8, 10, 0, 9), 12);
+        dueFunction("put of a net with the variable in it", x, 12,
+                at -> (v(at, 0) != v(at, 1)) != v(at, 1) && v(at, 5));
+        Check.due("put of the variable itself", x.gate(8, 10, 0, 0), 10);
+        Check.due("put of never", x.gate(8, 10, 5, 7), 7);
+        Check.due("put of always", x.gate(8, 10, 5, 8), 9);
+        Check.due("set to 0", x.gate(9, 9, 1, 0), 0);
+        Check.due("set to 1", x.gate(9, 9, 1, 1), 13);
+        dueFunction("set to 1", x, 13, at -> !v(at, 0));
+        Check.due("set of 6 to 1", x.gate(9, 6, 6, 1), 8);
+        Check.due("set of 6 to 0", x.gate(9, 6, 6, 0), 7);
+    }
+
+    private static void aFunctionThatIsThereIsFound() {
+        NetDesk x = new NetDesk();
+        Check.due("not never", x.gate(0, 7, 0, 0), 8);
+        Check.due("not always", x.gate(0, 8, 0, 0), 7);
+        Check.due("and of itself", x.gate(1, 6, 6, 0), 6);
+        Check.due("not 0", x.gate(0, 0, 0, 0), 9);
+        Check.due("not not 0", x.gate(0, 9, 0, 0), 0);
+        Check.due("just one with always", x.gate(3, 0, 8, 0), 9);
+        Check.due("not 6", x.gate(0, 6, 0, 0), 10);
+        Check.due("not 6 again", x.gate(4, 6, 7, 8), 10);
+        Check.due("their number", x.undo(11), 0);
+    }
+
+    private static void unusedArgumentsAreFree() {
+        NetDesk x = new NetDesk();
+        for (int any : Check.allBut(0, 31)) {
+            Check.due("not", x.gate(0, 0, any, any), 9);
+            Check.due("and", x.gate(1, 0, 1, any), 10);
+            Check.due("or", x.gate(2, 0, 1, any), 11);
+            Check.due("just one", x.gate(3, 0, 1, any), 12);
+            Check.due("some", x.gate(6, 0, 0, any), 8);
+            Check.due("all", x.gate(7, 0, 0, any), 7);
+        }
+    }
+
+    private static void wrongGatesChangeNothing() {
+        NetDesk x = new NetDesk();
+        for (int wrong : Check.allBut(0, 9)) {
+            Check.due("kind " + wrong, x.gate(wrong, 0, 1, 1), -1);
+        }
+        for (int wrong : Check.allBut(0, 8)) {
+            for (int kind = 0; kind < 10; kind++) {
+                Check.due("a of " + kind, x.gate(kind, wrong, 1, 1), -1);
+            }
+            for (int kind = 1; kind < 6; kind++) {
+                Check.due("b of " + kind, x.gate(kind, 0, wrong, 2), -1);
+            }
+            Check.due("c of 4", x.gate(4, 0, 1, wrong), -1);
+            Check.due("c of 5", x.gate(5, 0, 1, wrong), -1);
+            Check.due("c of 8", x.gate(8, 0, 0, wrong), -1);
+        }
+        for (int wrong : Check.allBut(0, 6)) {
+            for (int kind = 6; kind < 10; kind++) {
+                Check.due("b of " + kind, x.gate(kind, 0, wrong, 1), -1);
+            }
+        }
+        for (int wrong : Check.allBut(0, 1)) {
+            Check.due("c of 9", x.gate(9, 0, 1, wrong), -1);
+        }
+        Check.due("their number", x.undo(9), 0);
+        Check.due("the next one", x.gate(0, 0, 0, 0), 9);
+    }
+
+    private static NetDesk fullDesk() {
+        NetDesk x = new NetDesk();
+        int number = 9;
+        for (int a = 0; a < 7; a++) {
+            for (int b = a + 1; b < 7; b++) {
+                Check.due("filling", x.gate(1, a, b, 0), number);
+                number++;
+            }
+        }
+        Check.due("filling", x.gate(0, 0, 0, 0), 30);
+        Check.due("filling", x.gate(0, 1, 0, 0), 31);
+        return x;
+    }
+
+    private static void aFullDeskStillFinds() {
+        NetDesk x = fullDesk();
+        Check.due("one too many", x.gate(0, 2, 0, 0), -1);
+        Check.due("one that is there", x.gate(1, 6, 5, 0), 29);
+        Check.due("the last one", x.gate(0, 1, 0, 0), 31);
+        Check.due("a gate of the last one", x.gate(0, 31, 0, 0), 1);
+        Check.due("no such net", x.gate(0, 32, 0, 0), -1);
+        Check.due("their number", x.undo(33), -1);
+        Check.due("their number", x.undo(31), 1);
+        Check.due("room again", x.gate(0, 2, 0, 0), 31);
+        dueFunction("room again", x, 31, at -> !v(at, 2));
+    }
+
+    private static void undoTakesNetsAway() {
+        NetDesk x = fullDesk();
+        Check.due("none", x.undo(32), 0);
+        Check.due("two", x.undo(30), 2);
+        Check.due("no more", x.ask(30, 0), -1);
+        Check.due("no more", x.holds(30, 0), false);
+        Check.due("the last", x.ask(29, 0), 32);
+        Check.due("all", x.undo(9), 21);
+        Check.due("none is left", x.undo(9), 0);
+        Check.due("no such net", x.gate(0, 9, 0, 0), -1);
+        Check.due("numbers anew", x.gate(2, 0, 1, 0), 9);
+        dueFunction("numbers anew", x, 9, at -> v(at, 0) || v(at, 1));
+        Check.due("what was undone is made anew", x.gate(1, 0, 1, 0), 10);
+    }
+
+    private static void wrongUndosChangeNothing() {
+        NetDesk x = new NetDesk();
+        Check.due("not", x.gate(0, 0, 0, 0), 9);
+        for (int wrong : Check.allBut(9, 10)) {
+            Check.due("undo " + wrong, x.undo(wrong), -1);
+        }
+        Check.due("undo 0", x.undo(0), -1);
+        Check.due("it is there", x.gate(0, 0, 0, 0), 9);
+        Check.due("undo of one", x.undo(9), 1);
+    }
+
+    private static void undoLeavesNextFunctions() {
+        NetDesk x = new NetDesk();
+        Check.due("not", x.gate(0, 3, 0, 0), 9);
+        Check.due("next", x.next(3, 9), true);
+        Check.due("undo", x.undo(9), 1);
+        Check.due("step", x.step(0), 1);
+        Check.due("another", x.gate(2, 3, 4, 0), 9);
+        Check.due("step", x.step(0), 0);
+        Check.due("step", x.step(0), 1);
+        Check.due("states", x.states(2), 3);
+    }
+}
