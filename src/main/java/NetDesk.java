@@ -35,6 +35,7 @@ public final class NetDesk {
     private final int[] layer = new int[STATES];
     private final int[] distance = new int[STATES];
 
+    /** Never more than 15 STEPS are needed, and the inputs behind them. */
     private final int[] route = new int[STATES];
     private int routeLength;
 
@@ -614,6 +615,7 @@ public final class NetDesk {
         }
     }
 
+    /** The layers say which inputs still lead on, so that the least of them can be taken. */
     private void keepRoute(int a, int n) {
         int state = resetState;
         for (int k = 0; k < n; k++) {

@@ -22,7 +22,7 @@ final class Check {
         return (number >> k & 1) == 1;
     }
 
-    /** A number no call takes: just beside the good ones, or as far from them as can be. */
+    /** Numbers just beside these, and as far from them as can be. */
     static int[] allBut(int least, int greatest) {
         return new int[] {least - 1, greatest + 1, Integer.MIN_VALUE, Integer.MAX_VALUE};
     }

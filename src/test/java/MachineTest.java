@@ -25,17 +25,6 @@ public final class MachineTest {
         Check.end();
     }
 
-    /** The registers become a number that grows by 1 with each STEP, and 0 again after 15. */
-    private static void makeCounter(NetDesk x) {
-        int carry = 8;
-        for (int k = 3; k < 7; k++) {
-            int sum = x.gate(3, k, carry, 0);
-            carry = x.gate(1, k, carry, 0);
-            x.next(k, sum);
-        }
-        x.undo(9);
-    }
-
     /** Register 3 takes input 0, and each other register the one before it. */
     private static void makeShiftRow(NetDesk x) {
         x.next(3, 0);
@@ -140,7 +129,7 @@ public final class MachineTest {
 
     private static void wrongStepsChangeNothing() {
         NetDesk x = new NetDesk();
-        makeCounter(x);
+        Desks.makeCounter(x);
         Check.due("step", x.step(7), 1);
         for (int wrong : Check.allBut(-1, 7)) {
             Check.due("step " + wrong, x.step(wrong), -1);
@@ -150,7 +139,7 @@ public final class MachineTest {
 
     private static void nextAndResetLeaveTheMachine() {
         NetDesk x = new NetDesk();
-        makeCounter(x);
+        Desks.makeCounter(x);
         for (int k = 1; k < 6; k++) {
             Check.due("step", x.step(0), k);
         }
@@ -165,7 +154,7 @@ public final class MachineTest {
 
     private static void reachCountsSteps() {
         NetDesk x = new NetDesk();
-        makeCounter(x);
+        Desks.makeCounter(x);
         for (int k = 0; k < 4; k++) {
             Check.due("reach of " + (3 + k), x.reach(3 + k), 1 << k);
         }
@@ -196,7 +185,7 @@ public final class MachineTest {
 
     private static void reachDoesNotMoveTheMachine() {
         NetDesk x = new NetDesk();
-        makeCounter(x);
+        Desks.makeCounter(x);
         x.step(0);
         Check.due("reach", x.reach(6), 8);
         x.states(0);
@@ -302,7 +291,7 @@ public final class MachineTest {
 
     private static void statesOfACounter() {
         NetDesk x = new NetDesk();
-        makeCounter(x);
+        Desks.makeCounter(x);
         dueStates("counter", x, 16, 15, 65535);
         x.reset(9);
         dueStates("counter from 9", x, 16, 15, 65535);
@@ -323,7 +312,7 @@ public final class MachineTest {
 
     private static void statesFromElsewhere() {
         NetDesk x = new NetDesk();
-        makeCounter(x);
+        Desks.makeCounter(x);
         x.step(0);
         x.step(0);
         for (int register = 3; register < 7; register++) {

@@ -8,9 +8,11 @@ public final class NetsTest {
         newObjectHasItsNets();
         newObjectHasAMachineAtRest();
         gatesMakeTheirFunctions();
+        gatesOfGatesMakeTheirFunctions();
         quantifiersMakeTheirFunctions();
         putsAndSetsMakeTheirFunctions();
         aFunctionThatIsThereIsFound();
+        functionsThatDifferOnceAreTwo();
         unusedArgumentsAreFree();
         wrongGatesChangeNothing();
         aFullDeskStillFinds();
@@ -26,18 +28,25 @@ public final class NetsTest {
         }
     }
 
+    /** On an object of its own, as the calls on one are limited. */
+    private static void dueGate(int kind, int a, int b, int c, Function want) {
+        NetDesk x = new NetDesk();
+        Check.due("gate of kind " + kind, x.gate(kind, a, b, c), 9);
+        dueFunction("gate of kind " + kind, x, 9, want);
+    }
+
     private static boolean v(int x, int k) {
         return Check.bit(x, k);
     }
 
     private static void newObjectHasItsNets() {
-        NetDesk x = new NetDesk();
         for (int k = 0; k < 7; k++) {
             int variable = k;
-            dueFunction("net " + k, x, k, at -> v(at, variable));
+            dueFunction("net " + k, new NetDesk(), k, at -> v(at, variable));
         }
-        dueFunction("net 7", x, 7, at -> false);
-        dueFunction("net 8", x, 8, at -> true);
+        dueFunction("net 7", new NetDesk(), 7, at -> false);
+        dueFunction("net 8", new NetDesk(), 8, at -> true);
+        NetDesk x = new NetDesk();
         Check.due("ask of no net", x.ask(9, 0), -1);
         Check.due("undo of no net", x.undo(9), 0);
         Check.due("undo above", x.undo(10), -1);
@@ -54,22 +63,20 @@ public final class NetsTest {
     }
 
     private static void gatesMakeTheirFunctions() {
+        dueGate(0, 2, 0, 0, at -> !v(at, 2));
+        dueGate(1, 1, 6, 0, at -> v(at, 1) && v(at, 6));
+        dueGate(2, 0, 4, 0, at -> v(at, 0) || v(at, 4));
+        dueGate(3, 3, 6, 0, at -> v(at, 3) != v(at, 6));
+        dueGate(4, 5, 0, 6, at -> v(at, 5) ? v(at, 0) : v(at, 6));
+        dueGate(5, 1, 3, 5, at -> Integer.bitCount(at & 42) >= 2);
+    }
+
+    private static void gatesOfGatesMakeTheirFunctions() {
         NetDesk x = new NetDesk();
-        Check.due("not", x.gate(0, 2, 0, 0), 9);
-        dueFunction("not", x, 9, at -> !v(at, 2));
-        Check.due("and", x.gate(1, 1, 6, 0), 10);
-        dueFunction("and", x, 10, at -> v(at, 1) && v(at, 6));
-        Check.due("or", x.gate(2, 0, 4, 0), 11);
-        dueFunction("or", x, 11, at -> v(at, 0) || v(at, 4));
-        Check.due("just one", x.gate(3, 3, 6, 0), 12);
-        dueFunction("just one", x, 12, at -> v(at, 3) != v(at, 6));
-        Check.due("choice", x.gate(4, 5, 0, 6), 13);
-        dueFunction("choice", x, 13, at -> v(at, 5) ? v(at, 0) : v(at, 6));
-        Check.due("two of three", x.gate(5, 1, 3, 5), 14);
-        dueFunction("two of three", x, 14,
-                at -> (v(at, 1) ? 1 : 0) + (v(at, 3) ? 1 : 0) + (v(at, 5) ? 1 : 0) >= 2);
-        Check.due("gate of gates", x.gate(3, 14, 13, 0), 15);
-        dueFunction("gate of gates", x, 15, at -> x.holds(14, at) != x.holds(13, at));
+        Check.due("and", x.gate(1, 0, 5, 0), 9);
+        Check.due("or", x.gate(2, 3, 9, 0), 10);
+        Check.due("choice", x.gate(4, 9, 6, 10), 11);
+        dueFunction("choice", x, 11, at -> v(at, 0) && v(at, 5) ? v(at, 6) : v(at, 3));
     }
 
     /** Net 10 is true where 0 and 3 are, or 6 is. */
@@ -86,6 +93,9 @@ public final class NetsTest {
         Check.due("some of the variable", x.gate(6, 4, 4, 0), 8);
         Check.due("some of one it does not depend on", x.gate(6, 10, 5, 0), 10);
         Check.due("all of one it does not depend on", x.gate(7, 10, 5, 0), 10);
+        Check.due("not", x.gate(0, 0, 0, 0), 12);
+        Check.due("some of a falling one", x.gate(6, 12, 0, 0), 8);
+        Check.due("all of a falling one", x.gate(7, 12, 0, 0), 7);
     }
 
     private static void putsAndSetsMakeTheirFunctions() {
@@ -118,6 +128,14 @@ public final class NetsTest {
         Check.due("not 6", x.gate(0, 6, 0, 0), 10);
         Check.due("not 6 again", x.gate(4, 6, 7, 8), 10);
         Check.due("their number", x.undo(11), 0);
+    }
+
+    private static void functionsThatDifferOnceAreTwo() {
+        NetDesk x = new NetDesk();
+        int none = Desks.noneOfAll(x);
+        Check.due("true for 0 alone", none, 15);
+        Check.due("true but for 0", x.gate(0, none, 0, 0), 14);
+        Check.due("true for 0 or by variable 6", x.gate(2, none, 6, 0), 16);
     }
 
     private static void unusedArgumentsAreFree() {

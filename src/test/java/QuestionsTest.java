@@ -6,6 +6,8 @@ public final class QuestionsTest {
         asksOfDependence();
         asksOfDecisions();
         asksOfPrimesAndEssentials();
+        asksOfTheFirstAssignment();
+        asksOfTheLastNet();
         wrongAsks();
         shapes();
         wrongShapes();
@@ -65,10 +67,7 @@ public final class QuestionsTest {
         int far = x.gate(2, x.gate(1, 0, 3, 0), x.gate(1, 1, 4, 0), 0);
         far = x.gate(2, far, x.gate(1, 2, 5, 0), 0);
         Check.due("pairs apart", x.ask(far, 3), 14);
-        int odd = 0;
-        for (int k = 1; k < 7; k++) {
-            odd = x.gate(3, odd, k, 0);
-        }
+        int odd = Desks.oddOfAll(x);
         Check.due("an odd number of all", x.ask(odd, 3), 13);
         Check.due("6 where 0 is, else 5", x.ask(x.gate(4, 0, 6, 5), 3), 3);
         Check.due("6 where 5 is or 0 is", x.ask(x.gate(1, x.gate(2, 5, 0, 0), 6, 0), 3), 3);
@@ -82,12 +81,45 @@ public final class QuestionsTest {
         int ring = ringOfThree(x);
         Check.due("ring: primes", x.ask(ring, 4), 6);
         Check.due("ring: essentials", x.ask(ring, 5), 0);
-        int odd = 0;
-        for (int k = 1; k < 7; k++) {
-            odd = x.gate(3, odd, k, 0);
-        }
+        int odd = Desks.oddOfAll(x);
         Check.due("odd: primes", x.ask(odd, 4), 64);
         Check.due("odd: essentials", x.ask(odd, 5), 64);
+    }
+
+    /** The net before it has primes that cover the first assignment, too. */
+    private static void asksOfTheFirstAssignment() {
+        NetDesk x = new NetDesk();
+        int notBoth = x.gate(0, x.gate(1, 0, 1, 0), 0, 0);
+        int none = Desks.noneOfAll(x);
+        Check.due("not both: essentials", x.ask(notBoth, 5), 2);
+        Check.due("none: essentials", x.ask(none, 5), 1);
+        dueAsks("none", x, none, 1, 0, 127, 7, 1, 1);
+        Check.due("none: prime", x.prime(none, 0), 0);
+        Check.due("none: prime", x.prime(none, 1), -1);
+        for (int v = 0; v < 7; v++) {
+            Check.due("none by " + v, x.shape(none, v), 2);
+        }
+        NetDesk y = new NetDesk();
+        int noneButFirst = y.gate(9, Desks.noneOfAll(y), 0, 0);
+        int more = y.gate(2, 1, noneButFirst, 0);
+        Check.due("they differ once", y.ask(y.gate(4, 0, more, 1), 3), 8);
+    }
+
+    private static void asksOfTheLastNet() {
+        NetDesk x = new NetDesk();
+        for (int a = 0; a < 7; a++) {
+            for (int b = a + 1; b < 7; b++) {
+                x.gate(3, a, b, 0);
+            }
+        }
+        x.gate(1, 0, 1, 0);
+        Check.due("the last net", x.gate(5, 4, 5, 6), 31);
+        dueAsks("the last net", x, 31, 64, 48, 112, 4, 3, 3);
+        Check.due("the last net", x.prime(31, 0), code("2222211"));
+        Check.due("the last net", x.shape(31, 6), 1);
+        Check.due("the last net", x.same(31, 4, 6), true);
+        Check.due("the last net", x.holds(31, 127), true);
+        Check.due("the last net", x.holds(31, 128), false);
     }
 
     /** True unless variables 0, 1, 2 are all the same: each assignment lies in two primes. */
@@ -175,6 +207,7 @@ public final class QuestionsTest {
             Check.due("0 and 6 at " + at, x.holds(net, at), at > 64 && at % 2 == 1);
         }
         for (int wrong : Check.allBut(0, 127)) {
+            Check.due("never at " + wrong, x.holds(7, wrong), false);
             Check.due("always at " + wrong, x.holds(8, wrong), false);
         }
         for (int wrong : Check.allBut(0, 9)) {
@@ -210,10 +243,7 @@ public final class QuestionsTest {
 
     private static void primesOfManyVariables() {
         NetDesk x = new NetDesk();
-        int odd = 0;
-        for (int k = 1; k < 7; k++) {
-            odd = x.gate(3, odd, k, 0);
-        }
+        int odd = Desks.oddOfAll(x);
         int k = 0;
         for (int at = 0; at < 128; at++) {
             if (Integer.bitCount(at) % 2 == 1) {

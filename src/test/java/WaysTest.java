@@ -9,6 +9,7 @@ public final class WaysTest {
         untilOnSomeAndAllWays();
         untilAtOnce();
         setsAreOfSomeInputs();
+        inputsThatAreAllFalse();
         longWays();
         wrongChecks();
         alikeAtRest();
@@ -126,20 +127,29 @@ public final class WaysTest {
         Check.due("an input alone", x.check(5, 2, 0), ALL);
     }
 
-    /** The registers count up to 15 and on from 0, so that the longest ways are needed. */
-    private static void makeCounter(NetDesk x) {
-        int carry = 8;
-        for (int k = 3; k < 7; k++) {
-            int sum = x.gate(3, k, carry, 0);
-            carry = x.gate(1, k, carry, 0);
-            x.next(k, sum);
-        }
-        x.undo(9);
+    /** Register 6 changes, and the nets are true or tell states apart, with inputs 0 alone. */
+    private static void inputsThatAreAllFalse() {
+        NetDesk x = new NetDesk();
+        int none = x.gate(0, x.gate(2, x.gate(2, 0, 1, 0), 2, 0), 0, 0);
+        int noneIn = x.gate(1, none, 6, 0);
+        Check.due("the SET", x.check(5, noneIn, 0), 0xff00);
+        Check.due("alike now", x.alike(noneIn, -1), 2);
+        x.next(6, x.gate(2, 6, x.gate(1, none, 3, 0), 0));
+        Check.due("some STEP", x.check(0, 6, 0), 0xffaa);
+        Check.due("all STEPS", x.check(1, 6, 0), 0xff00);
+        Check.due("alike after a STEP", x.alike(6, -1), 3);
+        Check.due("alike after a STEP", x.alike(6, 7), 1);
+        x.reset(5);
+        Check.due("reach", x.reach(noneIn), 1);
+        Check.due("witness", x.witness(0), 0);
+        Check.due("witness", x.witness(1), 0);
+        Check.due("states", x.states(2), (1 << 5) + (1 << 13));
     }
 
+    /** The counter needs the longest ways that there are. */
     private static void longWays() {
         NetDesk x = new NetDesk();
-        makeCounter(x);
+        Desks.makeCounter(x);
         int last = x.gate(1, x.gate(1, 3, 4, 0), x.gate(1, 5, 6, 0), 0);
         int notLast = x.gate(0, last, 0, 0);
         Check.due("some way to 15", x.check(2, last, 0), ALL);
@@ -209,7 +219,7 @@ public final class WaysTest {
 
     private static void alikeOfALongRow() {
         NetDesk x = new NetDesk();
-        makeCounter(x);
+        Desks.makeCounter(x);
         int last = x.gate(1, x.gate(1, 3, 4, 0), x.gate(1, 5, 6, 0), 0);
         Check.due("how many", x.alike(last, -1), 16);
         for (int s = 0; s < 16; s++) {
@@ -232,7 +242,7 @@ public final class WaysTest {
 
     private static void questionsChangeNothing() {
         NetDesk x = new NetDesk();
-        makeCounter(x);
+        Desks.makeCounter(x);
         x.reset(5);
         x.step(-1);
         for (int kind = 0; kind < 8; kind++) {
