@@ -1,3 +1,5 @@
+import java.util.stream.IntStream;
+
 /** Counts and prints the answers that are not as due; not a test by itself. */
 final class Check {
     private static int made = 0;
@@ -22,9 +24,19 @@ final class Check {
         return (number >> k & 1) == 1;
     }
 
-    /** Numbers just beside these, and as far from them as can be. */
+    /**
+     * Numbers just beside these, as far from them as can be, and such as would be among them
+     * if bits were lost: a shift counts 32 as 0, and a number times 128 may wrap around.
+     */
     static int[] allBut(int least, int greatest) {
-        return new int[] {least - 1, greatest + 1, Integer.MIN_VALUE, Integer.MAX_VALUE};
+        IntStream.Builder wrong = IntStream.builder();
+        wrong.add(least - 1).add(greatest + 1).add(Integer.MIN_VALUE).add(Integer.MAX_VALUE);
+        for (int lost : new int[] {32, 256, 65536, 1 << 25, 1 << 30}) {
+            if (greatest - least < lost) {
+                wrong.add(least + lost).add(greatest - lost);
+            }
+        }
+        return wrong.build().toArray();
     }
 
     static void end() {

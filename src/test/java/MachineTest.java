@@ -1,27 +1,19 @@
-/** Promises 4, 5, 11 to 14 and 17: next, reset, step, reach, witness, states and their order. */
+/** Promises 4, 5 and 11 to 14: next, reset, step, reach, witness, states. */
 public final class MachineTest {
     public static void main(String[] args) {
         nextIsTakenAsTheNetIsNow();
-        nextOfItsOwn();
-        wrongNextsChangeNothing();
         resetSetsTheResetState();
-        wrongResetsChangeNothing();
         stepsGoAllAtOnce();
         stepsWithInputs();
-        wrongStepsChangeNothing();
-        nextAndResetLeaveTheMachine();
         reachCountsSteps();
         reachOfNone();
         reachDoesNotMoveTheMachine();
         witnessIsTheFirstRow();
         witnessLooksAhead();
         witnessOfTheLatestReach();
-        witnessStaysAsFound();
-        wrongWitnesses();
         statesOfACounter();
         statesOfAShiftRow();
         statesFromElsewhere();
-        wrongStates();
         Check.end();
     }
 
@@ -47,56 +39,12 @@ public final class MachineTest {
         Check.due("step", x.step(0), 15);
     }
 
-    private static void nextOfItsOwn() {
-        NetDesk x = new NetDesk();
-        for (int register = 3; register < 7; register++) {
-            Check.due("next", x.next(register, 8), true);
-        }
-        Check.due("step", x.step(0), 15);
-        for (int register = 3; register < 7; register++) {
-            Check.due("next", x.next(register, 7), true);
-        }
-        Check.due("own of 4", x.next(4, -1), true);
-        Check.due("step", x.step(0), 2);
-        Check.due("own of 6", x.next(6, -1), true);
-        Check.due("reset", x.reset(15), true);
-        Check.due("step", x.step(-1), 15);
-        Check.due("step", x.step(7), 10);
-    }
-
-    private static void wrongNextsChangeNothing() {
-        NetDesk x = new NetDesk();
-        for (int wrong : Check.allBut(3, 6)) {
-            Check.due("register " + wrong, x.next(wrong, 8), false);
-            Check.due("register " + wrong, x.next(wrong, -1), false);
-        }
-        for (int wrong : Check.allBut(-1, 8)) {
-            for (int register = 3; register < 7; register++) {
-                Check.due("net " + wrong, x.next(register, wrong), false);
-            }
-        }
-        for (int state = 0; state < 16; state++) {
-            x.reset(state);
-            x.step(-1);
-            Check.due("at rest", x.step(7), state);
-        }
-    }
-
     private static void resetSetsTheResetState() {
         NetDesk x = new NetDesk();
         for (int state = 0; state < 16; state++) {
             Check.due("reset", x.reset(state), true);
             Check.due("RESET state", x.step(-1), state);
             Check.due("states", x.states(2), 1 << state);
-        }
-    }
-
-    private static void wrongResetsChangeNothing() {
-        NetDesk x = new NetDesk();
-        x.reset(6);
-        for (int wrong : Check.allBut(0, 15)) {
-            Check.due("reset " + wrong, x.reset(wrong), false);
-            Check.due("RESET state", x.step(-1), 6);
         }
     }
 
@@ -125,31 +73,6 @@ public final class MachineTest {
             Check.due("step " + inputs, x.step(inputs), want);
             before = want;
         }
-    }
-
-    private static void wrongStepsChangeNothing() {
-        NetDesk x = new NetDesk();
-        Desks.makeCounter(x);
-        Check.due("step", x.step(7), 1);
-        for (int wrong : Check.allBut(-1, 7)) {
-            Check.due("step " + wrong, x.step(wrong), -1);
-        }
-        Check.due("step", x.step(0), 2);
-    }
-
-    private static void nextAndResetLeaveTheMachine() {
-        NetDesk x = new NetDesk();
-        Desks.makeCounter(x);
-        for (int k = 1; k < 6; k++) {
-            Check.due("step", x.step(0), k);
-        }
-        x.reset(11);
-        Check.due("step after reset", x.step(0), 6);
-        for (int register = 3; register < 7; register++) {
-            x.next(register, -1);
-        }
-        Check.due("step after next", x.step(0), 6);
-        Check.due("in the RESET state", x.step(-1), 11);
     }
 
     private static void reachCountsSteps() {
@@ -250,39 +173,6 @@ public final class MachineTest {
         dueRow("the latest", x, 4);
     }
 
-    private static void witnessStaysAsFound() {
-        NetDesk x = new NetDesk();
-        makeShiftRow(x);
-        int net = x.gate(1, 5, 1, 0);
-        Check.due("reach", x.reach(net), 3);
-        x.undo(9);
-        dueRow("after undo", x, 1, 0, 0, 2);
-        x.gate(0, 5, 0, 0);
-        dueRow("after gate", x, 1, 0, 0, 2);
-        x.next(3, 7);
-        x.next(5, -1);
-        dueRow("after next", x, 1, 0, 0, 2);
-        x.reset(9);
-        dueRow("after reset", x, 1, 0, 0, 2);
-        x.step(-1);
-        x.step(3);
-        dueRow("after step", x, 1, 0, 0, 2);
-        x.states(0);
-        x.check(2, 6, 0);
-        x.alike(6, -1);
-        x.ask(6, 5);
-        dueRow("after questions", x, 1, 0, 0, 2);
-    }
-
-    private static void wrongWitnesses() {
-        NetDesk x = new NetDesk();
-        Check.due("reach", x.reach(1), 0);
-        Check.due("the net's inputs", x.witness(0), 2);
-        for (int wrong : Check.allBut(0, 0)) {
-            Check.due("witness " + wrong, x.witness(wrong), -1);
-        }
-    }
-
     private static void dueStates(String which, NetDesk x, int count, int farthest, int sum) {
         Check.due(which + ": how many", x.states(0), count);
         Check.due(which + ": how far", x.states(1), farthest);
@@ -322,12 +212,5 @@ public final class MachineTest {
         x.reset(12);
         dueStates("from the RESET state", x, 2, 1, (1 << 12) + (1 << 14));
         Check.due("the machine stayed", x.step(0), 0);
-    }
-
-    private static void wrongStates() {
-        NetDesk x = new NetDesk();
-        for (int wrong : Check.allBut(0, 2)) {
-            Check.due("states " + wrong, x.states(wrong), -1);
-        }
     }
 }

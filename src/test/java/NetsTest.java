@@ -6,19 +6,13 @@ public final class NetsTest {
 
     public static void main(String[] args) {
         newObjectHasItsNets();
-        newObjectHasAMachineAtRest();
         gatesMakeTheirFunctions();
         gatesOfGatesMakeTheirFunctions();
         quantifiersMakeTheirFunctions();
         putsAndSetsMakeTheirFunctions();
         aFunctionThatIsThereIsFound();
         functionsThatDifferOnceAreTwo();
-        unusedArgumentsAreFree();
-        wrongGatesChangeNothing();
-        aFullDeskStillFinds();
         undoTakesNetsAway();
-        wrongUndosChangeNothing();
-        undoLeavesNextFunctions();
         Check.end();
     }
 
@@ -50,16 +44,6 @@ public final class NetsTest {
         Check.due("ask of no net", x.ask(9, 0), -1);
         Check.due("undo of no net", x.undo(9), 0);
         Check.due("undo above", x.undo(10), -1);
-    }
-
-    private static void newObjectHasAMachineAtRest() {
-        NetDesk x = new NetDesk();
-        Check.due("witness at first", x.witness(0), -1);
-        for (int inputs = 0; inputs < 8; inputs++) {
-            Check.due("step at first", x.step(inputs), 0);
-        }
-        Check.due("RESET state at first", x.step(-1), 0);
-        Check.due("states at first", x.states(2), 1);
     }
 
     private static void gatesMakeTheirFunctions() {
@@ -138,46 +122,6 @@ public final class NetsTest {
         Check.due("true for 0 or by variable 6", x.gate(2, none, 6, 0), 16);
     }
 
-    private static void unusedArgumentsAreFree() {
-        NetDesk x = new NetDesk();
-        for (int any : Check.allBut(0, 31)) {
-            Check.due("not", x.gate(0, 0, any, any), 9);
-            Check.due("and", x.gate(1, 0, 1, any), 10);
-            Check.due("or", x.gate(2, 0, 1, any), 11);
-            Check.due("just one", x.gate(3, 0, 1, any), 12);
-            Check.due("some", x.gate(6, 0, 0, any), 8);
-            Check.due("all", x.gate(7, 0, 0, any), 7);
-        }
-    }
-
-    private static void wrongGatesChangeNothing() {
-        NetDesk x = new NetDesk();
-        for (int wrong : Check.allBut(0, 9)) {
-            Check.due("kind " + wrong, x.gate(wrong, 0, 1, 1), -1);
-        }
-        for (int wrong : Check.allBut(0, 8)) {
-            for (int kind = 0; kind < 10; kind++) {
-                Check.due("a of " + kind, x.gate(kind, wrong, 1, 1), -1);
-            }
-            for (int kind = 1; kind < 6; kind++) {
-                Check.due("b of " + kind, x.gate(kind, 0, wrong, 2), -1);
-            }
-            Check.due("c of 4", x.gate(4, 0, 1, wrong), -1);
-            Check.due("c of 5", x.gate(5, 0, 1, wrong), -1);
-            Check.due("c of 8", x.gate(8, 0, 0, wrong), -1);
-        }
-        for (int wrong : Check.allBut(0, 6)) {
-            for (int kind = 6; kind < 10; kind++) {
-                Check.due("b of " + kind, x.gate(kind, 0, wrong, 1), -1);
-            }
-        }
-        for (int wrong : Check.allBut(0, 1)) {
-            Check.due("c of 9", x.gate(9, 0, 1, wrong), -1);
-        }
-        Check.due("their number", x.undo(9), 0);
-        Check.due("the next one", x.gate(0, 0, 0, 0), 9);
-    }
-
     private static NetDesk fullDesk() {
         NetDesk x = new NetDesk();
         int number = 9;
@@ -190,19 +134,6 @@ public final class NetsTest {
         Check.due("filling", x.gate(0, 0, 0, 0), 30);
         Check.due("filling", x.gate(0, 1, 0, 0), 31);
         return x;
-    }
-
-    private static void aFullDeskStillFinds() {
-        NetDesk x = fullDesk();
-        Check.due("one too many", x.gate(0, 2, 0, 0), -1);
-        Check.due("one that is there", x.gate(1, 6, 5, 0), 29);
-        Check.due("the last one", x.gate(0, 1, 0, 0), 31);
-        Check.due("a gate of the last one", x.gate(0, 31, 0, 0), 1);
-        Check.due("no such net", x.gate(0, 32, 0, 0), -1);
-        Check.due("their number", x.undo(33), -1);
-        Check.due("their number", x.undo(31), 1);
-        Check.due("room again", x.gate(0, 2, 0, 0), 31);
-        dueFunction("room again", x, 31, at -> !v(at, 2));
     }
 
     private static void undoTakesNetsAway() {
@@ -218,28 +149,5 @@ public final class NetsTest {
         Check.due("numbers anew", x.gate(2, 0, 1, 0), 9);
         dueFunction("numbers anew", x, 9, at -> v(at, 0) || v(at, 1));
         Check.due("what was undone is made anew", x.gate(1, 0, 1, 0), 10);
-    }
-
-    private static void wrongUndosChangeNothing() {
-        NetDesk x = new NetDesk();
-        Check.due("not", x.gate(0, 0, 0, 0), 9);
-        for (int wrong : Check.allBut(9, 10)) {
-            Check.due("undo " + wrong, x.undo(wrong), -1);
-        }
-        Check.due("undo 0", x.undo(0), -1);
-        Check.due("it is there", x.gate(0, 0, 0, 0), 9);
-        Check.due("undo of one", x.undo(9), 1);
-    }
-
-    private static void undoLeavesNextFunctions() {
-        NetDesk x = new NetDesk();
-        Check.due("not", x.gate(0, 3, 0, 0), 9);
-        Check.due("next", x.next(3, 9), true);
-        Check.due("undo", x.undo(9), 1);
-        Check.due("step", x.step(0), 1);
-        Check.due("another", x.gate(2, 3, 4, 0), 9);
-        Check.due("step", x.step(0), 0);
-        Check.due("step", x.step(0), 1);
-        Check.due("states", x.states(2), 3);
     }
 }

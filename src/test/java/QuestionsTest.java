@@ -8,15 +8,11 @@ public final class QuestionsTest {
         asksOfPrimesAndEssentials();
         asksOfTheFirstAssignment();
         asksOfTheLastNet();
-        wrongAsks();
         shapes();
-        wrongShapes();
         sames();
-        wrongSames();
         holdings();
         primesInOrder();
         primesOfManyVariables();
-        wrongPrimes();
         Check.end();
     }
 
@@ -129,19 +125,6 @@ public final class QuestionsTest {
         return x.gate(3, some, all, 0);
     }
 
-    private static void wrongAsks() {
-        NetDesk x = new NetDesk();
-        for (int wrong : Check.allBut(0, 8)) {
-            for (int what = 0; what < 6; what++) {
-                Check.due("ask of net " + wrong, x.ask(wrong, what), -1);
-            }
-        }
-        for (int wrong : Check.allBut(0, 5)) {
-            Check.due("ask " + wrong, x.ask(0, wrong), -1);
-            Check.due("ask " + wrong, x.ask(8, wrong), -1);
-        }
-    }
-
     private static void shapes() {
         NetDesk x = new NetDesk();
         int fall = x.gate(0, 6, 0, 0);
@@ -160,16 +143,6 @@ public final class QuestionsTest {
         Check.due("choice by 5", x.shape(choice, 5), 0);
     }
 
-    private static void wrongShapes() {
-        NetDesk x = new NetDesk();
-        for (int wrong : Check.allBut(0, 8)) {
-            Check.due("shape of net " + wrong, x.shape(wrong, 0), -1);
-        }
-        for (int wrong : Check.allBut(0, 6)) {
-            Check.due("shape by " + wrong, x.shape(0, wrong), -1);
-        }
-    }
-
     private static void sames() {
         NetDesk x = new NetDesk();
         int majority = x.gate(5, 0, 3, 6);
@@ -186,18 +159,6 @@ public final class QuestionsTest {
         Check.due("falling 1 2", x.same(falling, 1, 2), false);
         Check.due("falling 2 1", x.same(falling, 2, 1), false);
         Check.due("falling 0 6", x.same(falling, 0, 6), true);
-    }
-
-    private static void wrongSames() {
-        NetDesk x = new NetDesk();
-        for (int wrong : Check.allBut(0, 8)) {
-            Check.due("same of net " + wrong, x.same(wrong, 0, 0), false);
-        }
-        for (int wrong : Check.allBut(0, 6)) {
-            Check.due("same by " + wrong, x.same(8, wrong, 0), false);
-            Check.due("same by " + wrong, x.same(8, 0, wrong), false);
-            Check.due("same by " + wrong, x.same(8, wrong, wrong), false);
-        }
     }
 
     private static void holdings() {
@@ -256,15 +217,5 @@ public final class QuestionsTest {
             }
         }
         Check.due("odd 64", x.prime(odd, 64), -1);
-    }
-
-    private static void wrongPrimes() {
-        NetDesk x = new NetDesk();
-        for (int wrong : Check.allBut(0, 0)) {
-            Check.due("prime " + wrong, x.prime(8, wrong), -1);
-        }
-        for (int wrong : Check.allBut(0, 8)) {
-            Check.due("prime of net " + wrong, x.prime(wrong, 0), -1);
-        }
     }
 }

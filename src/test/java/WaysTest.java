@@ -1,4 +1,4 @@
-/** Promises 15, 16 and what 17 says of check: check and alike. */
+/** Promises 15 and 16: check and alike. */
 public final class WaysTest {
     private static final int ALL = 65535;
 
@@ -7,17 +7,13 @@ public final class WaysTest {
         comingToOnSomeAndAllWays();
         stayingOnSomeAndAllWays();
         untilOnSomeAndAllWays();
-        untilAtOnce();
         setsAreOfSomeInputs();
         inputsThatAreAllFalse();
         longWays();
-        wrongChecks();
         alikeAtRest();
         alikeWithInputs();
         alikeAfterSteps();
         alikeOfALongRow();
-        wrongAlikes();
-        questionsChangeNothing();
         Check.end();
     }
 
@@ -105,18 +101,6 @@ public final class WaysTest {
         Check.due("some way, in 0 or 2 until never", x.check(6, x.gate(0, 3, 0, 0), 7), 0);
     }
 
-    private static void untilAtOnce() {
-        NetDesk x = line();
-        for (int kind = 6; kind < 8; kind++) {
-            Check.due("in none until 2, 3", x.check(kind, 7, 4), onLine(2, 3));
-            Check.due("in none until all", x.check(kind, 7, 8), ALL);
-            Check.due("in all until none", x.check(kind, 8, 7), 0);
-        }
-        for (int kind = 2; kind < 4; kind++) {
-            Check.due("at once", x.check(kind, 6, 0), 0xff00);
-        }
-    }
-
     private static void setsAreOfSomeInputs() {
         NetDesk x = line();
         int some = x.gate(1, x.gate(1, 0, 1, 0), x.gate(1, 2, 4, 0), 0);
@@ -159,20 +143,6 @@ public final class WaysTest {
         Check.due("some way until 15", x.check(6, notLast, last), ALL);
         Check.due("all ways until 15", x.check(7, notLast, last), ALL);
         Check.due("all ways from 8 on until 15", x.check(7, 6, last), 0xff00);
-    }
-
-    private static void wrongChecks() {
-        NetDesk x = line();
-        for (int wrong : Check.allBut(0, 7)) {
-            Check.due("check " + wrong, x.check(wrong, 8, 8), -1);
-        }
-        for (int wrong : Check.allBut(0, 8)) {
-            for (int kind = 0; kind < 8; kind++) {
-                Check.due("a of " + kind, x.check(kind, wrong, 8), -1);
-                int want = kind < 6 ? ALL : -1;
-                Check.due("b of " + kind, x.check(kind, 8, wrong), want);
-            }
-        }
     }
 
     private static void alikeAtRest() {
@@ -227,30 +197,5 @@ public final class WaysTest {
             Check.due("of register 5, state " + s, x.alike(5, s), s % 8);
         }
         Check.due("of register 5", x.alike(5, -1), 8);
-    }
-
-    private static void wrongAlikes() {
-        NetDesk x = new NetDesk();
-        for (int wrong : Check.allBut(-1, 15)) {
-            Check.due("state " + wrong, x.alike(8, wrong), -1);
-        }
-        for (int wrong : Check.allBut(0, 8)) {
-            Check.due("net " + wrong, x.alike(wrong, 0), -1);
-            Check.due("net " + wrong, x.alike(wrong, -1), -1);
-        }
-    }
-
-    private static void questionsChangeNothing() {
-        NetDesk x = new NetDesk();
-        Desks.makeCounter(x);
-        x.reset(5);
-        x.step(-1);
-        for (int kind = 0; kind < 8; kind++) {
-            x.check(kind, 3, 4);
-        }
-        x.alike(6, -1);
-        Check.due("step", x.step(0), 6);
-        Check.due("nets", x.undo(9), 0);
-        Check.due("RESET state", x.step(-1), 5);
     }
 }
